@@ -1430,20 +1430,18 @@ public final class CreditBroker {
             messageCount++;
             int fitting = 0;
             for (int q = 0; q < queueCount; q++) {
-                if (queues[q].pattern.takesAllOf(topic)) {
-                    bring(message, queues[q]);
-                    fitting++;
+                Queue queue = queues[q];
+                if (!queue.pattern.takesAllOf(topic)) {
+                    continue;
+                }
+                fitting++;
+                if (queue.isFull()) {
+                    addDead(message, queue, new Cause(BY_FULL, time, 0, queue.limit, null));
+                } else {
+                    queue.insert(messages, message);
                 }
             }
             return fitting;
-        }
-
-        private void bring(int message, Queue queue) {
-            if (queue.isFull()) {
-                addDead(message, queue, new Cause(BY_FULL, time, 0, queue.limit, null));
-            } else {
-                queue.insert(messages, message);
-            }
         }
 
         int fittingQueues() {
