@@ -1,19 +1,7 @@
-import java.util.function.IntSupplier;
+import java.util.List;
 
 /** For each promise of the document: ordinary inputs, the edges that it names, and wrong inputs. */
-public final class PromiseTest {
-    private static final int NONE = CreditBroker.NONE;
-    private static final int BAD = -82;
-    private static final int OTHER = -83;
-    private static final int NOTHING = -84;
-    private static final int STUCK = -85;
-    private static final int FULL = -86;
-    private static final int LEAST = Integer.MIN_VALUE;
-    private static final int MOST = Integer.MAX_VALUE;
-
-    private static int wrong = 0;
-    private static String promise = "";
-
+public final class PromiseTest extends Checks {
     public static void main(String[] args) {
         newObject();
         rows();
@@ -73,119 +61,14 @@ public final class PromiseTest {
         beginsAnew();
         statuses();
         fullHouse();
-        System.out.println(wrong == 0 ? "promises: all answers are as due" : wrong + " answers are not as due");
-        if (wrong != 0) {
-            System.exit(1);
-        }
-    }
-
-    // ---- helpers
-
-    private static void due(String what, long got, long want) {
-        if (got != want) {
-            wrong++;
-            System.out.println(promise + ": " + what + " answered " + got + ", due is " + want);
-        }
-    }
-
-    /** The call answers its refusal's number, that refusal is counted once, and nothing else changes. */
-    private static void refused(CreditBroker x, String what, IntSupplier call, int want) {
-        int counted = want <= -300 ? BAD : want;
-        int[] before = refusals(x);
-        String stateBefore = state(x);
-        due(what, call.getAsInt(), want);
-        String stateAfter = state(x);
-        int[] after = refusals(x);
-        for (int k = 0; k < after.length; k++) {
-            due(what + ", refusals " + (BAD - k), after[k] - before[k], BAD - k == counted ? 1 : 0);
-        }
-        if (!stateBefore.equals(stateAfter)) {
-            wrong++;
-            System.out.println(promise + ": " + what + " changed\n  " + stateBefore + "\n  " + stateAfter);
-        }
-    }
-
-    private static int[] refusals(CreditBroker x) {
-        int[] told = new int[5];
-        for (int k = 0; k < told.length; k++) {
-            told[k] = x.status(12 + k);
-        }
-        return told;
-    }
-
-    /** All that can be asked without a refusal, but THE TAPE's size (some refusals empty it). */
-    private static String state(CreditBroker x) {
-        StringBuilder told = new StringBuilder();
-        for (int what = 0; what <= 10; what++) {
-            if (what != 8) {
-                told.append(x.status(what)).append(' ');
-            }
-        }
-        for (int s = 0; s < 8; s++) {
-            told.append(" s").append(x.holds(s));
-            for (int i = 0; i < 40; i++) {
-                told.append(',').append(x.element(s, i));
-            }
-        }
-        for (int q = 0; q < x.status(0); q++) {
-            told.append(" q");
-            for (int what = 0; what <= 10; what++) {
-                told.append(x.queueOf(q, what)).append(' ');
-            }
-            for (int i = 0; i < x.queueOf(q, 0); i++) {
-                for (int what = 0; what <= 4; what++) {
-                    told.append(x.letter(q, i, what)).append(',');
-                }
-            }
-        }
-        for (int c = 0; c < x.status(1); c++) {
-            told.append(" c");
-            for (int what = 0; what <= 4; what++) {
-                told.append(x.consumerOf(c, what)).append(',');
-            }
-        }
-        for (int i = 0; i < x.status(3); i++) {
-            told.append(" d");
-            for (int what = 0; what <= 3; what++) {
-                told.append(x.dead(i, what)).append(',');
-            }
-        }
-        return told.toString();
-    }
-
-    private static void feedAll(CreditBroker x, String text) {
-        for (int i = 0; i < text.length(); i++) {
-            x.feed(text.charAt(i));
-        }
-    }
-
-    private static int topic(CreditBroker x, String text) {
-        feedAll(x, text);
-        return x.topic();
-    }
-
-    private static int queue(CreditBroker x, String text, int limit, int tries, int lease, int age) {
-        feedAll(x, text);
-        return x.queue(limit, tries, lease, age);
-    }
-
-    /** One queue for all topics, one topic, one consumer with credits. */
-    private static CreditBroker simple(int limit, int tries, int lease, int age, int credits) {
-        CreditBroker x = new CreditBroker();
-        queue(x, "#", limit, tries, lease, age);
-        topic(x, "a");
-        x.consumer(0);
-        if (credits > 0) {
-            x.credit(0, credits);
-        }
-        return x;
+        end("promises");
     }
 
     // ---- promises
 
     private static void newObject() {
-        promise = "1 a new object";
-        CreditBroker x = new CreditBroker();
+        the("1 a new object");
+        Recorded x = new Recorded();
         int[] wants = {0, 0, 0, 0, 0, 0, 0, 0, 0, 1, 0, NONE, 0, 0, 0, 0, 0, NONE};
         for (int what = 0; what < wants.length; what++) {
             due("status(" + what + ")", x.status(what), wants[what]);
@@ -201,8 +84,8 @@ public final class PromiseTest {
     }
 
     private static void rows() {
-        promise = "2 row";
-        CreditBroker x = new CreditBroker();
+        the("2 row");
+        Recorded x = new Recorded();
         due("row(0, 0, 0)", x.row(0, 0, 0), 1);
         due("holds(0)", x.holds(0), 0);
         due("row(7, 4, 40)", x.row(7, 4, 40), 1);
@@ -211,7 +94,7 @@ public final class PromiseTest {
         due("set(7, 39, 5)", x.set(7, 39, 5), 1);
         due("row(7, 3, 40) again", x.row(7, 3, 40), 1);
         due("element(7, 39) of the new one", x.element(7, 39), 0);
-        CreditBroker y = withCauses();
+        Recorded y = withCauses();
         y.show(0, 0, 0);
         due("row(0, 1, 2) over a cause", y.row(0, 1, 2), 1);
         due("holds(0)", y.holds(0), 1);
@@ -226,8 +109,8 @@ public final class PromiseTest {
     }
 
     private static void sets() {
-        promise = "3 set";
-        CreditBroker x = new CreditBroker();
+        the("3 set");
+        Recorded x = new Recorded();
         long big = 0x1234_5678_9abc_def0L;
         long[] wants = {(byte) big, (short) big, (int) big, big, 1};
         for (int sort = 0; sort < 5; sort++) {
@@ -252,14 +135,14 @@ public final class PromiseTest {
         refused(x, "set(0, 2, 0)", () -> x.set(0, 2, 0), BAD);
         refused(x, "set(0, -1, 0)", () -> x.set(0, -1, 0), BAD);
         refused(x, "set(0, MOST, 0)", () -> x.set(0, MOST, 0), BAD);
-        CreditBroker y = withCauses();
+        Recorded y = withCauses();
         y.show(0, 0, 0);
         refused(y, "set(0, 99, 0) on a cause", () -> y.set(0, 99, 0), OTHER);
     }
 
     private static void copies() {
-        promise = "4 copy";
-        CreditBroker x = withCauses();
+        the("4 copy");
+        Recorded x = withCauses();
         x.row(0, 2, 5);
         x.row(1, 2, 3);
         x.row(2, 3, 3);
@@ -297,8 +180,8 @@ public final class PromiseTest {
     }
 
     private static void elements() {
-        promise = "5 element";
-        CreditBroker x = withCauses();
+        the("5 element");
+        Recorded x = withCauses();
         x.row(0, 3, 2);
         x.set(0, 1, -7);
         x.show(1, 0, 0);
@@ -314,8 +197,8 @@ public final class PromiseTest {
     }
 
     private static void holdsTold() {
-        promise = "6 holds";
-        CreditBroker x = withCauses();
+        the("6 holds");
+        Recorded x = withCauses();
         for (int sort = 0; sort < 5; sort++) {
             x.row(0, sort, 1);
             due("holds(0)", x.holds(0), sort);
@@ -333,41 +216,9 @@ public final class PromiseTest {
         }
     }
 
-    /**
-     * Three dead: message 2 by FULL of limit 2 at time 0; message 0 by OLD at time 9 behind a
-     * REJECTED (by consumer 0) at time 0; message 3 of queue 1 by LATE (of consumer 1) at time 12
-     * behind a REJECTED at 9.
-     */
-    private static CreditBroker withCauses() {
-        CreditBroker x = new CreditBroker();
-        queue(x, "a", 2, 4, 3, 9);
-        queue(x, "b", 5, 2, 3, 0);
-        x.consumer(0);
-        x.consumer(1);
-        x.credit(0, 3);
-        x.credit(1, 3);
-        topic(x, "a");
-        x.publish(0, 0, 0);
-        x.publish(1, 0, 0);
-        x.publish(2, 0, 0);
-        x.give(0);
-        x.nack(0, 0);
-        x.give(0);
-        x.ack(0, 1);
-        x.pass(9);
-        topic(x, "b");
-        x.publish(3, 0, 0);
-        x.give(1);
-        x.nack(1, 3);
-        x.pass(1);
-        x.give(1);
-        x.pass(3);
-        return x;
-    }
-
     private static void shows() {
-        promise = "7 show";
-        CreditBroker x = withCauses();
+        the("7 show");
+        Recorded x = withCauses();
         due("status(3)", x.status(3), 3);
         due("show(0, 2, 1)", x.show(0, 2, 1), 1);
         due("holds(0)", x.holds(0), 13);
@@ -389,8 +240,8 @@ public final class PromiseTest {
     }
 
     private static void saysOfKinds() {
-        promise = "8 says";
-        CreditBroker x = withCauses();
+        the("8 says");
+        Recorded x = withCauses();
         x.show(0, 0, 0);
         due("FULL: time", x.says(0, 0), 0);
         due("FULL: causes", x.says(0, 2), 0);
@@ -416,8 +267,8 @@ public final class PromiseTest {
     }
 
     private static void saysNothingElse() {
-        promise = "8 says";
-        CreditBroker x = new CreditBroker();
+        the("8 says");
+        Recorded x = new Recorded();
         x.row(0, 0, 1);
         refused(x, "says(8, 0)", () -> x.says(8, 0), BAD);
         refused(x, "says(-1, 0)", () -> x.says(-1, 0), BAD);
@@ -428,8 +279,8 @@ public final class PromiseTest {
     }
 
     private static void feeds() {
-        promise = "9 feed";
-        CreditBroker x = new CreditBroker();
+        the("9 feed");
+        Recorded x = new Recorded();
         due("feed(0)", x.feed(0), 1);
         due("feed(255)", x.feed(255), 2);
         refused(x, "feed(256)", () -> x.feed(256), BAD);
@@ -445,8 +296,8 @@ public final class PromiseTest {
     }
 
     private static void wipes() {
-        promise = "10 wipe";
-        CreditBroker x = new CreditBroker();
+        the("10 wipe");
+        Recorded x = new Recorded();
         feedAll(x, "a.b");
         due("wipe()", x.wipe(), 3);
         due("wipe()", x.wipe(), 0);
@@ -455,8 +306,8 @@ public final class PromiseTest {
     }
 
     private static void topics() {
-        promise = "11 topic";
-        CreditBroker x = new CreditBroker();
+        the("11 topic");
+        Recorded x = new Recorded();
         String[] topics = {"a", "z", "abcd", "a.b", "aa.bbb.cccc", "a.b.c.d", "aaaa.bbbb.cccc.zzzz"};
         int[] wants = {1, 1, 1, 2, 3, 4, 4};
         for (int k = 0; k < topics.length; k++) {
@@ -467,8 +318,8 @@ public final class PromiseTest {
     }
 
     private static void topicFaults() {
-        promise = "11 topic";
-        CreditBroker x = new CreditBroker();
+        the("11 topic");
+        Recorded x = new Recorded();
         queue(x, "a.b", 1, 1, 1, 0);
         topic(x, "a.b");
         String[] faulty = {"", "a.", ".a", "a..b", "abcde", "a.abcde", "a.b.c.d.", "a.b.c.d.e", "*", "a.#",
@@ -476,20 +327,20 @@ public final class PromiseTest {
         int[] faults = {0, 2, 0, 2, 4, 6, 7, 7, 0, 2, 0, 1, 1, 1, 6, 19, 19};
         for (int k = 0; k < faulty.length; k++) {
             feedAll(x, faulty[k]);
-            refused(x, "topic '" + faulty[k] + "'", () -> x.topic(), -300 - faults[k]);
+            refusedTapeGone(x, "topic '" + faulty[k] + "'", () -> x.topic(), -300 - faults[k]);
             due("status(8)", x.status(8), 0);
         }
         x.feed(97);
         x.feed(0);
-        refused(x, "topic of a 0", () -> x.topic(), -301);
+        refusedTapeGone(x, "topic of a 0", () -> x.topic(), -301);
         x.feed(225);
-        refused(x, "topic of a 225", () -> x.topic(), -300);
+        refusedTapeGone(x, "topic of a 225", () -> x.topic(), -300);
         due("fits(): the topic stays", x.fits(), 1);
     }
 
     private static void queues() {
-        promise = "12 queue";
-        CreditBroker x = new CreditBroker();
+        the("12 queue");
+        Recorded x = new Recorded();
         feedAll(x, "a");
         refused(x, "queue(0, 1, 1, 0)", () -> x.queue(0, 1, 1, 0), BAD);
         refused(x, "queue(21, 1, 1, 0)", () -> x.queue(21, 1, 1, 0), BAD);
@@ -508,10 +359,10 @@ public final class PromiseTest {
             due("queue " + patterns[k], queue(x, patterns[k], 1, 1, 1, 0), k + 1);
         }
         feedAll(x, "a");
-        refused(x, "a 9th queue", () -> x.queue(1, 1, 1, 0), FULL);
+        refusedTapeGone(x, "a 9th queue", () -> x.queue(1, 1, 1, 0), FULL);
         due("the tape is empty", x.status(8), 0);
         feedAll(x, "a.");
-        refused(x, "a 9th queue at fault", () -> x.queue(1, 1, 1, 0), -302);
+        refusedTapeGone(x, "a 9th queue at fault", () -> x.queue(1, 1, 1, 0), -302);
         feedAll(x, "a.");
         refused(x, "a 9th queue with a bad limit", () -> x.queue(0, 1, 1, 0), BAD);
         due("the tape stays", x.status(8), 2);
@@ -519,22 +370,22 @@ public final class PromiseTest {
     }
 
     private static void queueFaults() {
-        promise = "12 queue";
-        CreditBroker x = new CreditBroker();
+        the("12 queue");
+        Recorded x = new Recorded();
         String[] faulty = {"", "a.", "*.", "*a", "a*", "**", "*#", "#*", "#a", "#.", "#.a", "a.#.b", "a#",
             "a.b.c.d.#", "abcde", ".", "#.#", "*.*.*.*.", "aaaa.bbbb.cccc.dddd.", "aaaa.bbbb.cccc.dddd*", "A"};
         int[] faults = {0, 2, 2, 1, 1, 1, 1, 1, 1, 1, 1, 3, 1, 7, 4, 0, 1, 7, 19, 19, 0};
         for (int k = 0; k < faulty.length; k++) {
             feedAll(x, faulty[k]);
-            refused(x, "queue '" + faulty[k] + "'", () -> x.queue(1, 1, 1, 0), -300 - faults[k]);
+            refusedTapeGone(x, "queue '" + faulty[k] + "'", () -> x.queue(1, 1, 1, 0), -300 - faults[k]);
             due("status(8)", x.status(8), 0);
         }
         due("status(0)", x.status(0), 0);
     }
 
     private static void exclusives() {
-        promise = "13 exclusive";
-        CreditBroker x = simple(5, 1, 1, 0, 0);
+        the("13 exclusive");
+        Recorded x = simple(5, 1, 1, 0, 0);
         due("exclusive(0, 1)", x.exclusive(0, 1), 0);
         due("queueOf(0, 7)", x.queueOf(0, 7), 1);
         due("exclusive(0, 1)", x.exclusive(0, 1), 1);
@@ -547,8 +398,8 @@ public final class PromiseTest {
     }
 
     private static void consumers() {
-        promise = "14 consumer";
-        CreditBroker x = simple(5, 1, 1, 0, 0);
+        the("14 consumer");
+        Recorded x = simple(5, 1, 1, 0, 0);
         refused(x, "consumer(1)", () -> x.consumer(1), BAD);
         refused(x, "consumer(-1)", () -> x.consumer(-1), BAD);
         for (int c = 1; c < 10; c++) {
@@ -562,8 +413,8 @@ public final class PromiseTest {
     }
 
     private static void leaves() {
-        promise = "15 leave";
-        CreditBroker x = simple(9, 3, 4, 0, 3);
+        the("15 leave");
+        Recorded x = simple(9, 3, 4, 0, 3);
         for (int key = 0; key < 4; key++) {
             x.publish(key, 0, 0);
         }
@@ -589,8 +440,8 @@ public final class PromiseTest {
     }
 
     private static void credits() {
-        promise = "16 credit";
-        CreditBroker x = simple(9, 3, 4, 0, 0);
+        the("16 credit");
+        Recorded x = simple(9, 3, 4, 0, 0);
         due("credit(0, 1)", x.credit(0, 1), 1);
         due("credit(0, 8)", x.credit(0, 8), 9);
         refused(x, "credit(0, 1) of the 10th", () -> x.credit(0, 1), FULL);
@@ -606,8 +457,8 @@ public final class PromiseTest {
     }
 
     private static void publishes() {
-        promise = "17 publish";
-        CreditBroker x = new CreditBroker();
+        the("17 publish");
+        Recorded x = new Recorded();
         queue(x, "a.*", 1, 2, 3, 0);
         queue(x, "b", 5, 2, 3, 0);
         queue(x, "#", 2, 2, 3, 0);
@@ -633,8 +484,8 @@ public final class PromiseTest {
     }
 
     private static void publishesToTheEnd() {
-        promise = "17 publish";
-        CreditBroker x = new CreditBroker();
+        the("17 publish");
+        Recorded x = new Recorded();
         topic(x, "a");
         for (int k = 0; k < 300; k++) {
             due("publish", x.publish(0, 0, k), 0);
@@ -646,8 +497,8 @@ public final class PromiseTest {
     }
 
     private static void gives() {
-        promise = "18 give";
-        CreditBroker x = simple(9, 3, 4, 0, 0);
+        the("18 give");
+        Recorded x = simple(9, 3, 4, 0, 0);
         refused(x, "give(1)", () -> x.give(1), BAD);
         refused(x, "give(-1)", () -> x.give(-1), BAD);
         due("none there", x.give(0), NONE);
@@ -673,8 +524,8 @@ public final class PromiseTest {
     }
 
     private static void givesRoundAbout() {
-        promise = "18 give";
-        CreditBroker x = simple(20, 3, 4, 0, 9);
+        the("18 give");
+        Recorded x = simple(20, 3, 4, 0, 9);
         queue(x, "b", 9, 1, 1, 0);
         x.consumer(1);
         x.consumer(0);
@@ -703,8 +554,8 @@ public final class PromiseTest {
     }
 
     private static void givesExclusively() {
-        promise = "18 give";
-        CreditBroker x = simple(20, 3, 4, 0, 1);
+        the("18 give");
+        Recorded x = simple(20, 3, 4, 0, 1);
         x.consumer(0);
         x.credit(1, 5);
         x.exclusive(0, 1);
@@ -727,8 +578,8 @@ public final class PromiseTest {
     }
 
     private static void givesAll() {
-        promise = "19 giveAll";
-        CreditBroker x = simple(20, 3, 4, 0, 2);
+        the("19 giveAll");
+        Recorded x = simple(20, 3, 4, 0, 2);
         refused(x, "giveAll(1)", () -> x.giveAll(1), BAD);
         refused(x, "giveAll(-1)", () -> x.giveAll(-1), BAD);
         due("none", x.giveAll(0), 0);
@@ -746,8 +597,8 @@ public final class PromiseTest {
     }
 
     private static void acks() {
-        promise = "20 ack";
-        CreditBroker x = simple(20, 3, 4, 0, 2);
+        the("20 ack");
+        Recorded x = simple(20, 3, 4, 0, 2);
         x.consumer(0);
         x.publish(0, 0, 0);
         x.publish(1, 0, 0);
@@ -773,8 +624,8 @@ public final class PromiseTest {
     }
 
     private static void nacks() {
-        promise = "21 nack";
-        CreditBroker x = simple(20, 2, 4, 0, 9);
+        the("21 nack");
+        Recorded x = simple(20, 2, 4, 0, 9);
         x.consumer(0);
         x.publish(0, 0, 0);
         x.publish(1, 0, 0);
@@ -803,8 +654,8 @@ public final class PromiseTest {
     }
 
     private static void waits() {
-        promise = "21 nack";
-        CreditBroker x = simple(20, 5, 4, 0, 9);
+        the("21 nack");
+        Recorded x = simple(20, 5, 4, 0, 9);
         x.publish(0, 0, 0);
         int[] waits = {1, 2, 3, 5};
         for (int k = 0; k < 4; k++) {
@@ -824,8 +675,8 @@ public final class PromiseTest {
     }
 
     private static void passes() {
-        promise = "22 pass";
-        CreditBroker x = simple(20, 2, 3, 0, 9);
+        the("22 pass");
+        Recorded x = simple(20, 2, 3, 0, 9);
         refused(x, "pass(-1)", () -> x.pass(-1), BAD);
         refused(x, "pass(100)", () -> x.pass(100), BAD);
         due("pass(0)", x.pass(0), 0);
@@ -853,8 +704,8 @@ public final class PromiseTest {
     }
 
     private static void passesInOrder() {
-        promise = "22 pass";
-        CreditBroker x = new CreditBroker();
+        the("22 pass");
+        Recorded x = new Recorded();
         queue(x, "#", 9, 1, 2, 2);
         queue(x, "#", 9, 1, 2, 2);
         topic(x, "a");
@@ -875,8 +726,8 @@ public final class PromiseTest {
     }
 
     private static void ages() {
-        promise = "22 pass";
-        CreditBroker x = simple(20, 5, 9, 5, 9);
+        the("22 pass");
+        Recorded x = simple(20, 5, 9, 5, 9);
         x.publish(0, 0, 0);
         x.publish(1, 0, 0);
         x.pass(3);
@@ -899,8 +750,8 @@ public final class PromiseTest {
     }
 
     private static void revives() {
-        promise = "23 revive";
-        CreditBroker x = simple(2, 2, 3, 0, 9);
+        the("23 revive");
+        Recorded x = simple(2, 2, 3, 0, 9);
         x.publish(0, 0, 0);
         x.publish(0, 3, 0);
         x.publish(1, 3, 0);
@@ -931,8 +782,8 @@ public final class PromiseTest {
     }
 
     private static void keepsThirtyDead() {
-        promise = "17 publish";
-        CreditBroker x = simple(1, 1, 1, 0, 0);
+        the("17 publish");
+        Recorded x = simple(1, 1, 1, 0, 0);
         for (int k = 0; k < 33; k++) {
             x.publish(0, 0, 0);
         }
@@ -944,8 +795,8 @@ public final class PromiseTest {
     }
 
     private static void buries() {
-        promise = "24 bury";
-        CreditBroker x = new CreditBroker();
+        the("24 bury");
+        Recorded x = new Recorded();
         queue(x, "#", 1, 1, 1, 0);
         queue(x, "#", 2, 1, 1, 0);
         topic(x, "a");
@@ -965,8 +816,8 @@ public final class PromiseTest {
     }
 
     private static void purges() {
-        promise = "25 purge";
-        CreditBroker x = simple(9, 3, 4, 0, 2);
+        the("25 purge");
+        Recorded x = simple(9, 3, 4, 0, 2);
         for (int k = 0; k < 5; k++) {
             x.publish(k, 0, 0);
         }
@@ -982,8 +833,8 @@ public final class PromiseTest {
     }
 
     private static void queuesTold() {
-        promise = "26 queueOf";
-        CreditBroker x = simple(9, 3, 4, 0, 5);
+        the("26 queueOf");
+        Recorded x = simple(9, 3, 4, 0, 5);
         queue(x, "zz", 1, 1, 1, 0);
         x.consumer(0);
         x.consumer(0);
@@ -1014,8 +865,8 @@ public final class PromiseTest {
     }
 
     private static void lettersTold() {
-        promise = "27 letter";
-        CreditBroker x = simple(9, 3, 4, 0, 5);
+        the("27 letter");
+        Recorded x = simple(9, 3, 4, 0, 5);
         x.pass(7);
         x.publish(0, 0, 0);
         x.publish(1, 0, 0);
@@ -1039,8 +890,8 @@ public final class PromiseTest {
     }
 
     private static void consumersTold() {
-        promise = "28 consumerOf";
-        CreditBroker x = simple(9, 3, 4, 0, 5);
+        the("28 consumerOf");
+        Recorded x = simple(9, 3, 4, 0, 5);
         queue(x, "b", 9, 3, 4, 0);
         x.consumer(1);
         x.publish(0, 0, 0);
@@ -1063,8 +914,8 @@ public final class PromiseTest {
     }
 
     private static void heldTold() {
-        promise = "29 held";
-        CreditBroker x = simple(9, 3, 4, 0, 1);
+        the("29 held");
+        Recorded x = simple(9, 3, 4, 0, 1);
         x.consumer(0);
         x.credit(1, 5);
         x.publish(0, 0, 0);
@@ -1084,8 +935,8 @@ public final class PromiseTest {
     }
 
     private static void messagesTold() {
-        promise = "30 messageOf";
-        CreditBroker x = simple(1, 3, 4, 0, 1);
+        the("30 messageOf");
+        Recorded x = simple(1, 3, 4, 0, 1);
         queue(x, "*.b", 9, 3, 4, 0);
         x.pass(4);
         topic(x, "a.b");
@@ -1109,8 +960,8 @@ public final class PromiseTest {
     }
 
     private static void deadTold() {
-        promise = "31 dead";
-        CreditBroker x = withCauses();
+        the("31 dead");
+        Recorded x = withCauses();
         int[][] wants = {{2, 0, 0, 1}, {0, 0, 9, 2}, {3, 1, 13, 2}};
         for (int i = 0; i < 3; i++) {
             for (int what = 0; what < 4; what++) {
@@ -1124,8 +975,8 @@ public final class PromiseTest {
     }
 
     private static void causesTold() {
-        promise = "32 cause";
-        CreditBroker x = withCauses();
+        the("32 cause");
+        Recorded x = withCauses();
         int[][] wants = {{0, 0, 6, 0}, {1, 0, 5, 9}, {1, 1, 3, 0}, {2, 0, 4, 13}, {2, 1, 3, 9}};
         for (int[] want : wants) {
             due("kind of " + want[0] + ", " + want[1], x.cause(want[0], want[1], 0), want[2]);
@@ -1141,8 +992,8 @@ public final class PromiseTest {
     }
 
     private static void fitsTold() {
-        promise = "33 fits";
-        CreditBroker x = new CreditBroker();
+        the("33 fits");
+        Recorded x = new Recorded();
         String[] patterns = {"a", "*", "#", "a.#", "*.b", "a.*.#", "*.*.*.*", "ab"};
         for (String pattern : patterns) {
             queue(x, pattern, 1, 1, 1, 0);
@@ -1165,19 +1016,19 @@ public final class PromiseTest {
     }
 
     private static void coversTold() {
-        promise = "34 covers";
+        the("34 covers");
         String[] patterns = {"a", "*", "#", "a.#", "*.#", "a.*", "a.b.c.#", "a.b.c.*", "*.*.*.#", "*.*.*.*",
             "a.b.c.d", "ab", "*.a.#", "a.*.#", "a.b.c", "b.#"};
         for (String outer : patterns) {
             for (String inner : patterns) {
-                CreditBroker x = new CreditBroker();
+                Recorded x = new Recorded();
                 queue(x, outer, 1, 1, 1, 0);
                 queue(x, inner, 1, 1, 1, 0);
                 due(outer + " covers " + inner, x.covers(0, 1), coversByTrying(outer, inner) ? 1 : 0);
                 due(outer + " covers itself", x.covers(0, 0), 1);
             }
         }
-        CreditBroker x = new CreditBroker();
+        Recorded x = new Recorded();
         queue(x, "*.#", 1, 1, 1, 0);
         queue(x, "#", 1, 1, 1, 0);
         queue(x, "*.*.*.#", 1, 1, 1, 0);
@@ -1223,8 +1074,8 @@ public final class PromiseTest {
     }
 
     private static void patternsTold() {
-        promise = "35 pattern";
-        CreditBroker x = new CreditBroker();
+        the("35 pattern");
+        Recorded x = new Recorded();
         String[] patterns = {"a.*.zz.#", "aaaa.bbbb.cccc.dddd", "#"};
         for (int q = 0; q < patterns.length; q++) {
             String text = patterns[q];
@@ -1242,8 +1093,8 @@ public final class PromiseTest {
     }
 
     private static void nexts() {
-        promise = "36 next";
-        CreditBroker x = simple(9, 3, 4, 0, 0);
+        the("36 next");
+        Recorded x = simple(9, 3, 4, 0, 0);
         due("next(0, 0)", x.next(0, 0), NONE);
         due("next(0, 1)", x.next(0, 1), NONE);
         x.publish(0, 0, 0);
@@ -1266,8 +1117,8 @@ public final class PromiseTest {
     }
 
     private static void blockedKeys() {
-        promise = "37 blocked";
-        CreditBroker x = simple(9, 3, 4, 0, 9);
+        the("37 blocked");
+        Recorded x = simple(9, 3, 4, 0, 9);
         x.publish(0, 3, 0);
         x.publish(7, 3, 0);
         x.publish(2, 3, 0);
@@ -1290,8 +1141,8 @@ public final class PromiseTest {
     }
 
     private static void drainedOrder() {
-        promise = "38 drained";
-        CreditBroker x = simple(9, 3, 4, 0, 9);
+        the("38 drained");
+        Recorded x = simple(9, 3, 4, 0, 9);
         due("drained(0, 0)", x.drained(0, 0), NONE);
         int[][] sent = {{0, 0}, {1, 2}, {0, 3}, {2, 2}, {1, 3}, {5, 1}};
         for (int[] one : sent) {
@@ -1314,8 +1165,8 @@ public final class PromiseTest {
     }
 
     private static void untilNext() {
-        promise = "39 until";
-        CreditBroker x = simple(9, 2, 99, 0, 9);
+        the("39 until");
+        Recorded x = simple(9, 2, 99, 0, 9);
         due("none there", x.until(0), NONE);
         x.publish(0, 0, 0);
         due("now", x.until(0), 0);
@@ -1331,15 +1182,15 @@ public final class PromiseTest {
         due("the one behind, as the first dies", x.until(0), 99);
         refused(x, "until(1)", () -> x.until(1), BAD);
         refused(x, "until(-1)", () -> x.until(-1), BAD);
-        CreditBroker y = simple(9, 3, 4, 3, 9);
+        Recorded y = simple(9, 3, 4, 3, 9);
         y.publish(0, 0, 0);
         y.give(0);
         due("too old before it is ready", y.until(0), NONE);
     }
 
     private static void doomedLetters() {
-        promise = "40 doomed";
-        CreditBroker x = new CreditBroker();
+        the("40 doomed");
+        Recorded x = new Recorded();
         queue(x, "#", 9, 2, 3, 6);
         queue(x, "#", 9, 1, 5, 0);
         topic(x, "a");
@@ -1365,7 +1216,7 @@ public final class PromiseTest {
     }
 
     private static void doomedAsTheyAre() {
-        CreditBroker x = simple(9, 3, 9, 4, 9);
+        Recorded x = simple(9, 3, 9, 4, 9);
         x.publish(0, 0, 0);
         x.publish(0, 0, 0);
         x.give(0);
@@ -1380,8 +1231,8 @@ public final class PromiseTest {
     }
 
     private static void judges() {
-        promise = "41 judge";
-        CreditBroker x = withCauses();
+        the("41 judge");
+        Recorded x = withCauses();
         x.purge(1);
         for (int k = 0; k < 3; k++) {
             x.publish(k, k, 0);
@@ -1412,7 +1263,7 @@ public final class PromiseTest {
         refused(x, "judge(1, 2, 40)", () -> x.judge(1, 2, 40), OTHER);
         refused(x, "judge(1, 3, 40)", () -> x.judge(1, 3, 40), NOTHING);
         refused(x, "judge(1, 0, 5)", () -> x.judge(1, 0, 5), BAD);
-        CreditBroker y = simple(9, 3, 4, 0, 9);
+        Recorded y = simple(9, 3, 4, 0, 9);
         y.publish(0, 0, 0);
         y.publish(1, 0, 0);
         y.row(0, 4, 2);
@@ -1428,27 +1279,26 @@ public final class PromiseTest {
     }
 
     private static void days() {
-        promise = "42 days";
-        CreditBroker x = simple(9, 3, 4, 0, 9);
+        the("42 days");
+        Recorded x = simple(9, 3, 4, 0, 9);
         x.consumer(0);
-        CreditBroker y = simple(9, 3, 4, 0, 9);
+        Recorded y = simple(9, 3, 4, 0, 9);
         y.consumer(0);
         refused(x, "days(0)", () -> x.days(0), BAD);
         refused(x, "days(61)", () -> x.days(61), BAD);
         refused(x, "days(-1)", () -> x.days(-1), BAD);
         drawSeed = -123;
         x.seed(drawSeed);
-        for (int day = 0; day < 120; day++) {
+        y.seed(drawSeed);
+        for (int day = 0; day < 80; day++) {
             due("days(1)", x.days(1), dayByCalls(y));
             due("SEED", x.status(9), drawSeed);
-            if (!state(x).replace(" " + drawSeed + " ", " 1 ").equals(state(y))) {
-                wrong++;
-                System.out.println(promise + ": day " + day + "\n  " + state(x) + "\n  " + state(y));
-            }
+            y.seed(drawSeed);
+            dueAlike("day " + day, x.state(), y.state());
         }
     }
 
-    private static int dayByCalls(CreditBroker y) {
+    private static int dayByCalls(Recorded y) {
         int deed = draw(6);
         int did = 0;
         if (deed < 2) {
@@ -1472,8 +1322,8 @@ public final class PromiseTest {
     }
 
     private static void daysWithNothing() {
-        promise = "42 days";
-        CreditBroker x = new CreditBroker();
+        the("42 days");
+        Recorded x = new Recorded();
         due("days(60) of nothing", x.days(60), 0);
         due("NOW", x.status(4), 60);
         drawSeed = 1;
@@ -1494,8 +1344,8 @@ public final class PromiseTest {
     }
 
     private static void seeds() {
-        promise = "43 seed";
-        CreditBroker x = new CreditBroker();
+        the("43 seed");
+        Recorded x = new Recorded();
         due("seed(LEAST)", x.seed(LEAST), 1);
         due("seed(0)", x.seed(0), LEAST);
         due("status(9)", x.status(9), 0);
@@ -1504,13 +1354,13 @@ public final class PromiseTest {
     }
 
     private static void images() {
-        promise = "44, 45 image, back";
-        CreditBroker x = withCauses();
+        the("44, 45 image, back");
+        Recorded x = withCauses();
         x.publish(0, 1, 5);
         x.give(1);
         x.seed(77);
         x.exclusive(0, 1);
-        String before = state(x);
+        List<String> before = x.state();
         due("image()", x.image(), 1);
         topic(x, "z.z.z");
         x.seed(5);
@@ -1525,25 +1375,19 @@ public final class PromiseTest {
         x.purge(1);
         x.show(5, NONE, 0);
         due("back()", x.back(), 1);
-        if (!before.equals(state(x))) {
-            wrong++;
-            System.out.println(promise + ":\n  " + before + "\n  " + state(x));
-        }
+        dueAlike("all", x.state(), before);
         due("messageOf(4, 2)", x.messageOf(4, 2), 5);
         due("fits(): the topic, too", x.fits(), 2);
         x.publish(6, 2, 9);
         due("a number anew", x.messageOf(5, 2), 9);
         x.days(30);
         due("back() again", x.back(), 1);
-        if (!before.equals(state(x))) {
-            wrong++;
-            System.out.println(promise + " again:\n  " + before + "\n  " + state(x));
-        }
+        dueAlike("all again", x.state(), before);
         imagesKeepNot();
     }
 
     private static void imagesKeepNot() {
-        CreditBroker x = withCauses();
+        Recorded x = withCauses();
         x.row(0, 3, 2);
         x.feed(97);
         refused(x, "back() of nothing", () -> x.back(), STUCK);
@@ -1566,8 +1410,8 @@ public final class PromiseTest {
 
     /** What was made behind the image and went by back() leaves nothing to what is made then. */
     private static void beginsAnew() {
-        promise = "45 back";
-        CreditBroker x = new CreditBroker();
+        the("45 back");
+        Recorded x = new Recorded();
         x.image();
         queue(x, "a.b.#", 20, 5, 9, 3);
         x.exclusive(0, 1);
@@ -1608,8 +1452,8 @@ public final class PromiseTest {
 
     /** All that there may be at most, and every call on it. */
     private static void fullHouse() {
-        promise = "all at most";
-        CreditBroker x = new CreditBroker();
+        the("all at most");
+        Recorded x = new Recorded();
         topic(x, "a.b.c.d");
         for (int k = 0; k < 250; k++) {
             x.publish(k % 8, k % 4, k);
@@ -1654,8 +1498,8 @@ public final class PromiseTest {
     }
 
     private static void statuses() {
-        promise = "46 status";
-        CreditBroker x = withCauses();
+        the("46 status");
+        Recorded x = withCauses();
         x.row(3, 0, 0);
         x.show(4, 0, 0);
         x.publish(0, 0, 0);

@@ -7,6 +7,10 @@ import java.lang.management.ManagementFactory;
  */
 public final class RoomTest {
     private static final long MOST_BYTES = 7_300_000L;
+    private static final int MOST_CALLS = 512;
+    /** Those of full: queues, consumers, a topic, messages, what is given, an image. */
+    private static final int OPENING_CALLS = 16 + 20 + 2 + 20 + 8 + 1;
+    private static final int MOST_CALLS_AT_ONCE = 6;
     private static int wrong = 0;
 
     public static void main(String[] args) {
@@ -27,8 +31,8 @@ public final class RoomTest {
     private static void run(int sort) {
         long before = bytes();
         CreditBroker x = full(sort);
-        int call = 60;
-        while (call < 512) {
+        int call = OPENING_CALLS;
+        while (call + MOST_CALLS_AT_ONCE <= MOST_CALLS) {
             call += dearCalls(x, sort);
         }
         long made = bytes() - before;
