@@ -129,6 +129,38 @@ public final class AskedBoundaryTest extends Checks {
             y.publish(key, 0, 0);
         }
         due("queueOf(0, 4)", y.queueOf(0, 4), 3);
+        the("26 queueOf: GIVEN, ACKNOWLEDGED, came to be DEAD so far: more than one each");
+        Recorded w = simple(9, 1, 1, 0, 9);
+        for (int key = 0; key < 8; key++) {
+            w.publish(key, 0, 0);
+        }
+        due("giveAll(0)", w.giveAll(0), 8);
+        for (int m = 0; m < 3; m++) {
+            w.ack(0, m);
+        }
+        w.nack(0, 3);
+        due("pass(1)", w.pass(1), 4);
+        w.revive(0);
+        due("GIVEN", w.queueOf(0, 8), 8);
+        due("ACKNOWLEDGED", w.queueOf(0, 9), 3);
+        due("came to be DEAD", w.queueOf(0, 10), 5);
+        the("26 queueOf: of each QUEUE its own, the first and the 8th");
+        Recorded z = new Recorded();
+        topic(z, "a");
+        for (int q = 0; q < 8; q++) {
+            queue(z, "a", 1 + q, 1, 1, 0);
+            z.consumer(q);
+            z.credit(q, 1 + q);
+        }
+        for (int m = 0; m < 9; m++) {
+            z.publish(m % 8, 0, 0);
+        }
+        for (int q = 0; q < 8; q += 7) {
+            int[] own = {1 + q, 1 + q, 0, 0, 1 + q, 1, 1 + q, 0, 0, 0, 8 - q};
+            for (int what = 0; what <= 10; what++) {
+                due("queueOf(" + q + ", " + what + ")", z.queueOf(q, what), own[what]);
+            }
+        }
     }
 
     private static void letterEdges() {
@@ -194,6 +226,21 @@ public final class AskedBoundaryTest extends Checks {
             due("held(0, " + i + ")", y.held(0, i), i);
         }
         refused(y, "held(0, 8)", () -> y.held(0, 8), BAD);
+        the("29 held: BAD: all it had went");
+        Recorded z = simple(1, 1, 9, 0, 1);
+        z.publish(0, 0, 0);
+        z.give(0);
+        z.ack(0, 0);
+        refused(z, "held(0, 0)", () -> z.held(0, 0), BAD);
+        the("29 held: of a full QUEUE, the last one");
+        Recorded w = simple(20, 1, 9, 0, 1);
+        for (int m = 0; m < 20; m++) {
+            w.publish(m < 19 ? 0 : 1, m < 19 ? 0 : 1, 0);
+        }
+        w.give(0);
+        due("held(0, 0)", w.held(0, 0), 19);
+        refused(w, "held(0, 1)", () -> w.held(0, 1), BAD);
+        due("leave(0)", w.leave(0), 1);
     }
 
     private static void messageOfEdges() {
@@ -870,6 +917,12 @@ public final class AskedBoundaryTest extends Checks {
             dueDay(z, seedFor(6, deed, 3, 1), 0, 2);
             dueDay(z, seedFor(6, deed, 3, 2), 0, 2);
         }
+        the("42 days: 4, 5: all it had went: nothing done, but drawn");
+        Recorded v = threeQueues(9);
+        v.giveAll(1);
+        v.ack(1, 0);
+        dueDay(v, seedFor(6, 4, 3, 1), 0, 2);
+        dueDay(v, seedFor(6, 5, 3, 1), 0, 2);
         the("42 days: 4: the first by numbers, not the first GIVEN");
         Recorded w = simple(9, 1, 9, 0, 9);
         w.publish(0, 0, 0);
@@ -1010,6 +1063,19 @@ public final class AskedBoundaryTest extends Checks {
         x.pass(9);
         due("back()", x.back(), 1);
         dueAlike("state", x.state(), want);
+        the("44 image: LETTERS of all PRIORITIES are kept in a full QUEUE, DRAINED as ahead");
+        Recorded z = simple(20, 3, 9, 0, 0);
+        for (int m = 0; m < 20; m++) {
+            z.publish(m % 8, m % 3, 0);
+        }
+        z.image();
+        List<String> full = z.state();
+        z.purge(0);
+        for (int m = 0; m < 20; m++) {
+            z.publish((m + 3) % 8, 3 - m % 4, 0);
+        }
+        z.back();
+        dueAlike("state", z.state(), full);
         the("45 back: what comes then is as it would have come");
         Recorded y = lettersOfAllSorts();
         for (Recorded one : new Recorded[] {x, y}) {
@@ -1149,6 +1215,7 @@ public final class AskedBoundaryTest extends Checks {
         x.ack(0, 1);
         x.pass(20);
         x.seed(8);
+        x.leave(0);
         due("back()", x.back(), 1);
         dueAlike("state", x.state(), new Recorded().state());
         refused(x, "fits()", () -> x.fits(), STUCK);

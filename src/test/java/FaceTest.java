@@ -49,10 +49,6 @@ public final class FaceTest {
         }
         Set<String> due = new TreeSet<>(List.of(FACE));
         Set<String> there = new TreeSet<>();
-        Set<String> publicNames = new TreeSet<>();
-        for (String method : FACE) {
-            publicNames.add(method.split(" ")[0]);
-        }
         for (Method method : broker.getDeclaredMethods()) {
             String told = told(method);
             if (Modifier.isPublic(method.getModifiers())) {
@@ -63,8 +59,6 @@ public final class FaceTest {
                 }
             } else if (!Modifier.isPrivate(method.getModifiers())) {
                 fault("neither public nor private: " + method);
-            } else if (publicNames.contains(method.getName())) {
-                fault("rule 1, a private method of a public one's name: " + method);
             }
         }
         if (!due.equals(there)) {
@@ -82,6 +76,14 @@ public final class FaceTest {
                 fault("a constructor: " + constructor);
             }
         }
+    }
+
+    private static Set<String> publicNames() {
+        Set<String> names = new TreeSet<>();
+        for (String method : FACE) {
+            names.add(method.split(" ")[0]);
+        }
+        return names;
     }
 
     private static String told(Method method) {
@@ -119,6 +121,9 @@ public final class FaceTest {
             for (Method method : one.getDeclaredMethods()) {
                 if (method.getParameterCount() > 7) {
                     fault("rule 11: " + method);
+                }
+                if (!Modifier.isPublic(method.getModifiers()) && publicNames().contains(method.getName())) {
+                    fault("rule 1, one of its own with a public one's name: " + method);
                 }
             }
         }

@@ -100,6 +100,18 @@ public final class HappeningBoundaryTest extends Checks {
         due("leave(1)", x.leave(1), 0);
         due("consumerOf(1, 3)", x.consumerOf(1, 3), 1);
         due("READY", x.queueOf(0, 1), 1);
+        the("15 leave: one whose LETTERS went: ACKNOWLEDGED, dead by REJECTED, dead by LATE");
+        Recorded w = crew(3);
+        w.giveAll(0);
+        w.ack(0, 2);
+        due("leave(0)", w.leave(0), 2);
+        for (int way = 0; way < 3; way++) {
+            Recorded v = simple(1, 1, 1, 0, 1);
+            v.publish(0, 0, 0);
+            v.give(0);
+            due("it goes", way == 0 ? v.ack(0, 0) : way == 1 ? v.nack(0, 0) : v.pass(1), way == 0 ? 0 : 1);
+            due("leave(0)", v.leave(0), 0);
+        }
         the("15 leave: its LETTERS that are OUT are READY, nothing FAILED, no CREDITS are left");
         x.consumer(0);
         x.credit(2, 1);
@@ -126,6 +138,20 @@ public final class HappeningBoundaryTest extends Checks {
         y.nack(0, 0);
         due("leave(0)", y.leave(0), 0);
         due("letter(0, 0, 1)", y.letter(0, 0, 1), 1);
+        the("15 leave: a LETTER that FAILED ahead stays FAILED as often, with its CAUSE");
+        Recorded u = simple(9, 2, 9, 0, 5);
+        u.publish(0, 0, 0);
+        u.give(0);
+        u.nack(0, 0);
+        u.pass(1);
+        u.give(0);
+        due("leave(0)", u.leave(0), 1);
+        due("FAILED", u.letter(0, 0, 2), 1);
+        u.consumer(0);
+        u.credit(1, 1);
+        u.give(0);
+        due("nack(1, 0)", u.nack(1, 0), 2);
+        due("dead(0, 3)", u.dead(0, 3), 2);
         the("15 leave: TIME brings it nothing then, its LEASES are no more");
         due("pass(9)", x.pass(9), 0);
         due("CREDITS", x.consumerOf(0, 1), 0);
@@ -388,6 +414,12 @@ public final class HappeningBoundaryTest extends Checks {
         x.credit(0, 1);
         x.credit(9, 1);
         dueGoTo(x, 0, 9, NONE);
+        the("18 give: what nobody gets doesn't change who got the latest");
+        Recorded w = crew(1, 0);
+        dueGoTo(w, 0, NONE);
+        w.credit(0, 1);
+        w.credit(1, 1);
+        dueGoTo(w, 1, 0, NONE);
         the("18 give: behind one that LEFT, too");
         Recorded y = crew(1, 2, 1);
         dueGoTo(y, 0, 1);
@@ -477,6 +509,14 @@ public final class HappeningBoundaryTest extends Checks {
         due("giveAll(0) again", z.giveAll(0), 0);
         due("consumerOf(0, 2)", z.consumerOf(0, 2), 4);
         due("consumerOf(1, 2)", z.consumerOf(1, 2), 4);
+        the("19 giveAll: as if they were GIVEN one by one");
+        Recorded one = crew(3, 1, 2);
+        Recorded two = crew(3, 1, 2);
+        one.giveAll(0);
+        for (int k = 0; k < 6; k++) {
+            two.give(0);
+        }
+        dueAlike("state", one.state(), two.state());
     }
 
     // ---- 20 ack, 21 nack
@@ -726,6 +766,19 @@ public final class HappeningBoundaryTest extends Checks {
         due("says(0, 5)", x.says(0, 5), 10);
         due("says(0, 2)", x.says(0, 2), 1);
         due("cause(1, 1, 0)", x.cause(1, 1, 0), 4);
+        the("22 pass: RESTING is not OLD, for all its WAIT");
+        Recorded w = simple(9, 5, 9, 3, 1);
+        w.publish(0, 0, 0);
+        w.give(0);
+        w.nack(0, 0);
+        w.pass(1);
+        w.give(0);
+        w.pass(5);
+        due("nack(0, 0)", w.nack(0, 0), 2);
+        due("pass(1)", w.pass(1), 0);
+        due("letter(0, 0, 1)", w.letter(0, 0, 1), 1);
+        due("pass(1)", w.pass(1), 1);
+        due("dead(0, 3)", w.dead(0, 3), 3);
         the("22 pass: no AGE: never OLD");
         Recorded y = simple(9, 5, 9, 0, 1);
         y.publish(0, 0, 0);
@@ -914,6 +967,14 @@ public final class HappeningBoundaryTest extends Checks {
         due("dead(0, 0)", x.dead(0, 0), 1);
         only(x, "bury(1) again", () -> x.bury(1), 0);
         due("came to be DEAD", x.queueOf(1, 10), 3);
+        the("24 bury: those of QUEUE 0 alone");
+        Recorded v = scene();
+        due("bury(0)", v.bury(0), 1);
+        int[] messages = {2, 3, 4};
+        for (int i = 0; i < messages.length; i++) {
+            due("dead(" + i + ", 0)", v.dead(i, 0), messages[i]);
+            due("dead(" + i + ", 1)", v.dead(i, 1), 1);
+        }
         the("24 bury: NONE: all, of which there are none, or some");
         Recorded y = scene();
         due("bury(NONE)", y.bury(NONE), 4);
@@ -945,6 +1006,7 @@ public final class HappeningBoundaryTest extends Checks {
         due("DEAD", x.status(3), 4);
         due("came to be DEAD", x.queueOf(0, 10), 1);
         due("ACKNOWLEDGED", x.queueOf(0, 9), 1);
+        due("CREDITS", x.queueOf(0, 6), 5);
         the("25 purge: another QUEUE's stay");
         due("LETTERS", x.queueOf(1, 0), 2);
         the("25 purge: all of a full QUEUE");
